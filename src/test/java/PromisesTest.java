@@ -1,4 +1,4 @@
-/** Each promise of the document on answers worked out by hand: ordinary inputs, edges and wrong inputs. */
+/** Each promise of the document on single fixed answers: ordinary inputs, edges and wrong inputs. */
 public final class PromisesTest {
     private static final int BAD = -1;
     private static final int NONE = -2;
