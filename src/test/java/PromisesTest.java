@@ -1,9 +1,7 @@
-/** Each promise of the document on single fixed answers: ordinary inputs, edges and wrong inputs. */
+/** Each promise of the document on single fixed answers. The boundary cases have their own tests, in BoundaryTest. */
 public final class PromisesTest {
     private static final int BAD = -1;
     private static final int NONE = -2;
-    private static final int[] OUTSIDE_CELLS = {-1, 6, 7, -6, 100, Integer.MIN_VALUE, Integer.MAX_VALUE};
-    private static final int[] OUTSIDE_MOVES = {-1, -2, 4, 5, 100, Integer.MIN_VALUE, Integer.MAX_VALUE};
 
     private static int wrong = 0;
 
@@ -18,20 +16,16 @@ public final class PromisesTest {
         constants();
         promise1NewObject();
         promise2Exchange();
-        promise2Refusals();
         promise3Move();
-        promise3Refusals();
         promise4Cell();
         promise5Solvable();
         promise6Distance();
         promise7BestSolutions();
         promise8Hint();
-        promise8HintEdges();
         promise9GoodMoves();
         promise10Step();
         promise11SwapBoards();
         objectsAreApart();
-        holdsFor512Calls();
         System.out.println(wrong == 0 ? "all answers are as due" : wrong + " answers are not as due");
         if (wrong != 0) {
             System.exit(1);
@@ -88,18 +82,6 @@ public final class PromisesTest {
         due("both boards exchanged alike: distance()", puzzle.distance(), 0);
     }
 
-    private static void promise2Refusals() {
-        SlidingTileIda puzzle = puzzle("412503", "120453");
-        for (int outside : OUTSIDE_CELLS) {
-            for (boolean goal : new boolean[] {false, true}) {
-                due("exchange with x " + outside, puzzle.exchange(goal, outside, 2), false);
-                due("exchange with y " + outside, puzzle.exchange(goal, 2, outside), false);
-                due("exchange with both " + outside, puzzle.exchange(goal, outside, outside), false);
-                dueBoards("a refused exchange", puzzle, "412503", "120453");
-            }
-        }
-    }
-
     private static void promise3Move() {
         // From each cell of the gap, the cells to which up, down, left and right lead.
         int[][] to = {
@@ -121,17 +103,6 @@ public final class PromisesTest {
         }
     }
 
-    private static void promise3Refusals() {
-        // The gap in a middle cell and in a corner: a wrong number is BAD wherever the gap is.
-        for (String board : new String[] {"123405", "012345", "123450"}) {
-            SlidingTileIda puzzle = puzzle(board, "123450");
-            for (int outside : OUTSIDE_MOVES) {
-                due("move(" + outside + ")", puzzle.move(outside), BAD);
-                dueBoards("a bad move", puzzle, board, "123450");
-            }
-        }
-    }
-
     private static void promise4Cell() {
         SlidingTileIda puzzle = puzzle("504132", "321054");
         int[] start = {5, 0, 4, 1, 3, 2};
@@ -139,10 +110,6 @@ public final class PromisesTest {
         for (int x = 0; x < 6; x++) {
             due("cell(false, " + x + ")", puzzle.cell(false, x), start[x]);
             due("cell(true, " + x + ")", puzzle.cell(true, x), goal[x]);
-        }
-        for (int outside : OUTSIDE_CELLS) {
-            due("cell(false, " + outside + ")", puzzle.cell(false, outside), BAD);
-            due("cell(true, " + outside + ")", puzzle.cell(true, outside), BAD);
         }
     }
 
@@ -202,20 +169,6 @@ public final class PromisesTest {
         due("hints about a square", hints(sixMovesAboutASquare()), "130213");
     }
 
-    private static void promise8HintEdges() {
-        SlidingTileIda puzzle = puzzle("412503", "123450");
-        due("hint(4) of 5", puzzle.hint(4), 1);
-        for (int outside : new int[] {5, 6, 21, -1, -2, -3, Integer.MIN_VALUE, Integer.MAX_VALUE}) {
-            due("hint(" + outside + ") of 5", puzzle.hint(outside), NONE);
-            due("hint(" + outside + ") without a solution", puzzle("123540", "123450").hint(outside), NONE);
-            due("hint(" + outside + ") of equal boards", new SlidingTileIda().hint(outside), NONE);
-        }
-        due("hint(0) without a solution", puzzle("123540", "123450").hint(0), NONE);
-        due("hint(0) of equal boards", puzzle("412503", "412503").hint(0), NONE);
-        due("hint(20) of 21 is a move", puzzle("450123", "123450").hint(20) >= 0, true);
-        due("hint(21) of 21", puzzle("450123", "123450").hint(21), NONE);
-    }
-
     private static void promise9GoodMoves() {
         due("goodMoves() of equal boards", puzzle("504132", "504132").goodMoves(), 0);
         due("goodMoves() without a solution", puzzle("123540", "123450").goodMoves(), 0);
@@ -265,15 +218,6 @@ public final class PromisesTest {
         one.exchange(true, 0, 1);
         dueBoards("an object whose neighbour was changed", other, "123450", "123450");
         due("its distance()", other.distance(), 0);
-    }
-
-    private static void holdsFor512Calls() {
-        SlidingTileIda puzzle = new SlidingTileIda();
-        for (int call = 0; call < 510; call++) {
-            due("move " + call, puzzle.move(call % 2 == 0 ? 2 : 3), call % 2 == 0 ? 4 : 5);
-        }
-        due("exchange, call 511", puzzle.exchange(true, 4, 5), true);
-        due("distance(), call 512", puzzle.distance(), 1);
     }
 
     /** A puzzle whose boards are brought about with exchanges alone. */
