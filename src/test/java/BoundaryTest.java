@@ -1,14 +1,13 @@
 import java.util.ArrayList;
 import java.util.List;
-import java.util.function.Consumer;
 import java.util.function.ToLongFunction;
 
 /**
  * One test for each sentence of the document that names a boundary case: too small, too large, empty, full, a
  * wrap-around, a refused call. What a test finds wrong is printed under its sentence.
  *
- * <p>Answers that are too long to work out by hand (distances 20 and 21 and their solutions) were found by a search
- * written in another language, apart from the class.
+ * <p>Answers that are too long to work out by hand (distances above 6, their solutions, and which boards have the most)
+ * were found by a search written in another language, apart from the class; that search is not kept here.
  */
 public final class BoundaryTest {
     private static final int BAD = -1;
@@ -19,6 +18,9 @@ public final class BoundaryTest {
     private static final int RIGHT = 3;
     private static final int FARTHEST = 21;
     private static final int CALLS = 512;
+
+    /** How many calls all(puzzle) makes at most. */
+    private static final int MOST_QUESTIONS = 12 + 5 + FARTHEST;
 
     private static final String FIRST = "123450";
 
@@ -46,6 +48,7 @@ public final class BoundaryTest {
     public static void main(String[] args) {
         test("What it is: An object is used for at most 512 calls", BoundaryTest::the512thCallIsRight);
         test("What it is: 512 calls, one half of them refused", BoundaryTest::the512thCallIsRightAfterRefusals);
+        test("What it is: all that an object shows up to its 512th call", BoundaryTest::allIsRightUpToThe512thCall);
 
         test("Terms: each of the tiles 1 to 5 is in one cell, and one cell is the gap", BoundaryTest::boardsStayWhole);
         test("Terms: A move is POSSIBLE iff the gap does not leave the board (possible)", BoundaryTest::possibleMoves);
@@ -70,7 +73,7 @@ public final class BoundaryTest {
         test("Promise 2: Else true", BoundaryTest::exchangeOfEveryPair);
 
         test("Promise 3: move outside 0..3: BAD", BoundaryTest::moveOutside);
-        test("Promise 3: outside 0..3 is BAD, not NONE, in every cell of the gap", BoundaryTest::moveOutsideInEveryCell);
+        test("Promise 3: outside 0..3: BAD, wherever the gap is", BoundaryTest::moveOutsideInEveryCell);
         test("Promise 3: it is not possible: NONE", BoundaryTest::moveNotPossible);
         test("Promise 3: on the START", BoundaryTest::moveLeavesTheGoal);
         test("Promise 3: answers the cell in which the gap is then", BoundaryTest::moveAnswersTheNewCell);
@@ -122,13 +125,14 @@ public final class BoundaryTest {
     // ---- What it is
 
     private static void the512thCallIsRight() {
-        due("goal changes, then cell(true, 4)", last(p -> p.exchange(true, 4, 5), p -> p.cell(true, 4)), 0);
-        due("goal changes, then distance()", last(p -> p.exchange(true, 4, 5), SlidingTileIda::distance), 1);
-        due("start changes, then distance()", last(p -> p.exchange(false, 4, 5), SlidingTileIda::distance), 1);
+        due("goal changes, then cell(true, 4)", last(p -> p.exchange(true, 4, 5) ? 1 : 0, p -> p.cell(true, 4)), 0);
+        due("goal changes, then distance()", last(p -> p.exchange(true, 4, 5) ? 1 : 0, SlidingTileIda::distance), 1);
+        due("start changes, then distance()", last(p -> p.exchange(false, 4, 5) ? 1 : 0, SlidingTileIda::distance), 1);
         due("moves right and not possible, then move(2)", last(p -> p.move(RIGHT), p -> p.move(LEFT)), 4);
         due("moves up, then step()", last(p -> p.move(UP), SlidingTileIda::step), DOWN);
         due("steps, then move(0)", last(SlidingTileIda::step, p -> p.move(UP)), 2);
-        due("swaps, then exchange(true, 0, 5)", last(SlidingTileIda::swapBoards, p -> p.exchange(true, 0, 5) ? 1 : 0), 1);
+        due("swaps, then exchange(true, 0, 5)",
+            last(BoundaryTest::swap, p -> p.exchange(true, 0, 5) ? 1 : 0), 1);
         due("hints, then bestSolutions()", last(p -> p.hint(0), SlidingTileIda::bestSolutions), 1);
         due("cells, then hint(0)", last(p -> p.cell(true, 0), p -> p.hint(0)), NONE);
         due("distances, then goodMoves()", last(SlidingTileIda::distance, SlidingTileIda::goodMoves), 0);
@@ -136,11 +140,16 @@ public final class BoundaryTest {
     }
 
     private static void the512thCallIsRightAfterRefusals() {
-        due("refused exchanges, then distance()", last(p -> p.exchange(true, 6, 0), SlidingTileIda::distance), 0);
+        due("refused exchanges, then distance()",
+            last(p -> p.exchange(true, 6, 0) ? 1 : 0, SlidingTileIda::distance), 0);
         due("bad moves, then move(0)", last(p -> p.move(4), p -> p.move(UP)), 2);
         due("moves that aren't possible, then move(2)", last(p -> p.move(DOWN), p -> p.move(LEFT)), 4);
         due("bad cells, then cell(false, 4)", last(p -> p.cell(false, 6), p -> p.cell(false, 4)), 5);
         due("hints outside, then step()", last(p -> p.hint(-1), SlidingTileIda::step), NONE);
+        SlidingTileIda stepped = new SlidingTileIda();
+        repeat(stepped, SlidingTileIda::step, CALLS - 2);
+        stepped.exchange(false, 4, 5);
+        due("refused steps and an exchange, then step()", stepped.step(), RIGHT);
         SlidingTileIda puzzle = new SlidingTileIda();
         for (int call = 1; call < CALLS - 1; call += 2) {
             due("call " + call, puzzle.move(call % 4 == 1 ? LEFT : RIGHT), call % 4 == 1 ? 4 : 5);
@@ -152,12 +161,58 @@ public final class BoundaryTest {
     }
 
     /** What an object answers to its 512th call after 511 calls of one kind. */
-    private static long last(Consumer<SlidingTileIda> call, ToLongFunction<SlidingTileIda> lastCall) {
+    private static long last(ToLongFunction<SlidingTileIda> call, ToLongFunction<SlidingTileIda> lastCall) {
         SlidingTileIda puzzle = new SlidingTileIda();
-        for (int made = 1; made < CALLS; made++) {
-            call.accept(puzzle);
-        }
+        repeat(puzzle, call, CALLS - 1);
         return lastCall.applyAsLong(puzzle);
+    }
+
+    private static void allIsRightUpToThe512thCall() {
+        dueLikeFewCalls("step()", SlidingTileIda::step, 5, 5);
+        dueLikeFewCalls("swapBoards()", BoundaryTest::swap, 0, 1);
+        dueLikeFewCalls("exchange(false, 0, 5)", p -> p.exchange(false, 0, 5) ? 1 : 0, 0, 1);
+        dueLikeFewCalls("exchange(true, 1, 3)", p -> p.exchange(true, 1, 3) ? 1 : 0, 0, 1);
+        dueLikeFewCalls("move(0)", p -> p.move(UP), 1, 1);
+        dueLikeFewCalls("move(2)", p -> p.move(LEFT), 1, 1);
+        dueLikeFewCalls("move(3)", p -> p.move(RIGHT), 1, 1);
+        dueLikeFewCalls("move(1), not possible", p -> p.move(DOWN), 0, 0);
+        dueLikeFewCalls("move(4)", p -> p.move(4), 0, 0);
+        dueLikeFewCalls("exchange(false, 6, 0)", p -> p.exchange(false, 6, 0) ? 1 : 0, 0, 0);
+        dueLikeFewCalls("exchange(true, 0, -1)", p -> p.exchange(true, 0, -1) ? 1 : 0, 0, 0);
+        dueLikeFewCalls("cell(true, 6)", p -> p.cell(true, 6), 0, 0);
+        dueLikeFewCalls("cell(false, 5)", p -> p.cell(false, 5), 0, 0);
+        dueLikeFewCalls("solvable()", p -> p.solvable() ? 1 : 0, 0, 0);
+        dueLikeFewCalls("distance()", SlidingTileIda::distance, 0, 0);
+        dueLikeFewCalls("bestSolutions()", SlidingTileIda::bestSolutions, 0, 0);
+        dueLikeFewCalls("hint(4)", p -> p.hint(4), 0, 0);
+        dueLikeFewCalls("hint(5), too large", p -> p.hint(5), 0, 0);
+        dueLikeFewCalls("goodMoves()", SlidingTileIda::goodMoves, 0, 0);
+    }
+
+    /** An even and an odd number of calls of one kind, with the questions after them 512 at most, against few calls. */
+    private static void dueLikeFewCalls(String call, ToLongFunction<SlidingTileIda> asked, int likeEven, int likeOdd) {
+        int many = CALLS - 5 - MOST_QUESTIONS;
+        for (int number = many - 1; number <= many; number++) {
+            SlidingTileIda puzzle = fiveMovesAway();
+            repeat(puzzle, asked, number);
+            SlidingTileIda twin = fiveMovesAway();
+            repeat(twin, asked, number % 2 == 0 ? likeEven : likeOdd);
+            dueLike("after " + number + " times " + call, puzzle, twin);
+        }
+    }
+
+    private static void repeat(SlidingTileIda puzzle, ToLongFunction<SlidingTileIda> asked, int times) {
+        for (int made = 0; made < times; made++) {
+            asked.applyAsLong(puzzle);
+        }
+    }
+
+    private static SlidingTileIda fiveMovesAway() {
+        SlidingTileIda puzzle = new SlidingTileIda();
+        for (int move : new int[] {UP, LEFT, LEFT, DOWN, RIGHT}) {
+            puzzle.move(move);
+        }
+        return puzzle;
     }
 
     // ---- Terms
@@ -302,9 +357,7 @@ public final class BoundaryTest {
     private static void exchangeOfACellWithItself() {
         for (String[] pair : PAIRS) {
             for (int x = 0; x < 6; x++) {
-                int cell = x;
-                dueUnchanged(pair, "exchange(false, " + x + ", " + x + ")", p -> p.exchange(false, cell, cell) ? 1 : 0, 1);
-                dueUnchanged(pair, "exchange(true, " + x + ", " + x + ")", p -> p.exchange(true, cell, cell) ? 1 : 0, 1);
+                dueUnchangedByExchange(pair, x, x, 1);
             }
         }
     }
@@ -336,9 +389,13 @@ public final class BoundaryTest {
 
     private static void dueRefusedExchange(int x, int y) {
         for (String[] pair : PAIRS) {
-            dueUnchanged(pair, "exchange(false, " + x + ", " + y + ")", p -> p.exchange(false, x, y) ? 1 : 0, 0);
-            dueUnchanged(pair, "exchange(true, " + x + ", " + y + ")", p -> p.exchange(true, x, y) ? 1 : 0, 0);
+            dueUnchangedByExchange(pair, x, y, 0);
         }
+    }
+
+    private static void dueUnchangedByExchange(String[] pair, int x, int y, int answer) {
+        dueUnchanged(pair, "exchange(false, " + x + ", " + y + ")", p -> p.exchange(false, x, y) ? 1 : 0, answer);
+        dueUnchanged(pair, "exchange(true, " + x + ", " + y + ")", p -> p.exchange(true, x, y) ? 1 : 0, answer);
     }
 
     private static void exchangeOfEveryPair() {
@@ -657,7 +714,7 @@ public final class BoundaryTest {
 
     private static void questionsChangeNothing() {
         for (String[] pair : PAIRS) {
-            dueUnchanged(pair, "all questions", p -> all(p).size(), all(new SlidingTileIda()).size());
+            dueUnchanged(pair, "all questions", p -> all(p).get(0), pair[0].charAt(0) - '0');
         }
     }
 
@@ -671,9 +728,10 @@ public final class BoundaryTest {
         due(call + where, asked.applyAsLong(puzzle), answer);
         dueBoards("after " + call, puzzle, pair[0], pair[1]);
         dueLike("after " + call + where, puzzle, twin);
+        // First the calls that are never refused, for the same reason as in the questions.
         List<ToLongFunction<SlidingTileIda>> later = List.of(
-            SlidingTileIda::step, BoundaryTest::swap, p -> p.move(UP), p -> p.move(RIGHT),
-            p -> p.exchange(true, 1, 5) ? 1 : 0, p -> p.exchange(false, 4, 2) ? 1 : 0, SlidingTileIda::step);
+            BoundaryTest::swap, p -> p.exchange(true, 1, 5) ? 1 : 0, p -> p.exchange(false, 4, 2) ? 1 : 0,
+            SlidingTileIda::step, p -> p.move(UP), p -> p.move(RIGHT), SlidingTileIda::step);
         for (int made = 0; made < later.size(); made++) {
             String when = "later call " + made + " after " + call + where;
             due(when, later.get(made).applyAsLong(puzzle), later.get(made).applyAsLong(twin));
@@ -685,7 +743,10 @@ public final class BoundaryTest {
         due("all that is shown " + when, all(puzzle).toString(), all(twin).toString());
     }
 
-    /** The answers to all questions: the boards, and what promises 5 to 9 say of them. */
+    /**
+     * The answers to all questions: the boards, and what promises 5 to 9 say of them. None of them is a refused call,
+     * or else what a refused call changes would be changed on the object beside it too.
+     */
     private static List<Integer> all(SlidingTileIda puzzle) {
         List<Integer> answers = new ArrayList<>();
         for (int x = 0; x < 6; x++) {
@@ -696,7 +757,8 @@ public final class BoundaryTest {
         answers.add(puzzle.distance());
         answers.add(puzzle.bestSolutions());
         answers.add(puzzle.goodMoves());
-        for (int k = -1; k <= FARTHEST; k++) {
+        int distance = puzzle.distance();
+        for (int k = 0; k < distance; k++) {
             answers.add(puzzle.hint(k));
         }
         return answers;
