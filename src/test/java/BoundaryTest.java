@@ -7,7 +7,8 @@ import java.util.function.ToLongFunction;
  * wrap-around, a refused call. What a test finds wrong is printed under its sentence.
  *
  * <p>Answers that are too long to work out by hand (distances above 6, their solutions, and which boards have the most)
- * were found by a search written in another language, apart from the class; that search is not kept here.
+ * were found by a search written in another language, apart from the class; that search is not kept here, but
+ * AllPairsTest asks for the same answers without such numbers.
  */
 public final class BoundaryTest {
     private static final int BAD = -1;
